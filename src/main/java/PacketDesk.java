@@ -191,9 +191,6 @@ public final class PacketDesk {
     }
 
     public int encipher(int key, int start) {
-        if (length + START_BYTES > LIMIT) {
-            return FULL;
-        }
         drafted = 0;
         putWord(start);
         put(draft[2]);
@@ -236,9 +233,6 @@ public final class PacketDesk {
     public int sign(int k) {
         if (!isKey(k)) {
             return BAD;
-        }
-        if (length + WORD_BYTES > LIMIT) {
-            return FULL;
         }
         long digest = hashBelowModulus(k, length);
         long signature = power(digest, privatePowers[k], moduli[k]);

@@ -15,6 +15,7 @@ public final class HeadersTest {
         newSizes();
         newPieces();
         firstFaultCounts();
+        bytesOfBefore();
         CHECKS.finish();
     }
 
@@ -189,5 +190,19 @@ public final class HeadersTest {
         unwrapAnswers(PacketDesk.WRONG, 193, 24, 224);
         unwrapAnswers(PacketDesk.WRONG, 193, 224, 9, 100);
         unwrapAnswers(PacketDesk.SHORT, 193, 226, 24, 24);
+    }
+    /** What stood behind the end before it was cleared must not be read as a size or a body. */
+    private static void bytesOfBefore() {
+        int[][] rows = {{193}, {193, 2, 9}, {193, 192}, {193, 224}, {193, 224, 9}, {132}, {132, 1}, {133, 0}, {133, 0, 1}};
+        int[] fillings = {0, 1, 24, 255};
+        for (int filling : fillings) {
+            for (int[] row : rows) {
+                PacketDesk x = Checks.desk(Checks.same(filling, 120));
+                x.clear();
+                Checks.fill(x, row);
+                CHECKS.due("unwrap of " + java.util.Arrays.toString(row) + " where " + filling + " was",
+                    x.unwrap(), PacketDesk.SHORT);
+            }
+        }
     }
 }

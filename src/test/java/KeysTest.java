@@ -204,6 +204,14 @@ public final class KeysTest {
             }
             CHECKS.due("verify of a signature above n", x.verify(0), PacketDesk.WRONG);
         }
+        // The HASH of these three is a multiple of n, so 0 is their signature, and n must not be.
+        PacketDesk z = Checks.desk(1, 33, 185, 0, 1, 8, 7);
+        z.key(0, 257, 263, 5);
+        CHECKS.due("verify of n itself", z.verify(0), PacketDesk.WRONG);
+        z.set(4, 0);
+        z.set(5, 0);
+        z.set(6, 0);
+        CHECKS.due("verify of 0", z.verify(0), 3);
         PacketDesk y = Checks.desk(255, 255, 255, 255);
         y.key(0, 46337, 46327, 65537);
         CHECKS.due("verify of the highest word", y.verify(0), PacketDesk.WRONG);

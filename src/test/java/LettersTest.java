@@ -8,6 +8,7 @@ public final class LettersTest {
     public static void main(String[] args) {
         knownLetters();
         libraryLetters();
+        bytesOfBefore();
         full();
         tooShort();
         spoilt();
@@ -84,6 +85,21 @@ public final class LettersTest {
             crc = crc << 1 | (bits[i] ? 1 : 0);
         }
         return crc;
+    }
+
+    /** What stood behind the end before it was cleared must not come into the letters. */
+    private static void bytesOfBefore() {
+        PacketDesk x = Checks.desk(Checks.same(255, 9));
+        x.clear();
+        x.add(0);
+        x.letters();
+        CHECKS.holds("letters of one byte", x, Checks.codes(withCrc("AA==", 0)));
+        x.clear();
+        Checks.fill(x, Checks.same(255, 9));
+        x.clear();
+        Checks.fill(x, 0, 0);
+        x.letters();
+        CHECKS.holds("letters of two bytes", x, Checks.codes(withCrc("AAA=", 0, 0)));
     }
 
     private static void full() {
