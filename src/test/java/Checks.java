@@ -1,9 +1,26 @@
 import java.util.Arrays;
 
 /** Counts and prints the answers that are not due; shared by the tests of the project. */
-final class Checks {
+final class Checks implements Telling {
     private int wrong = 0;
     private int done = 0;
+    private String part = "";
+
+    @Override
+    public void part(String heading) {
+        part = heading;
+    }
+
+    @Override
+    public void says(String words, Runnable test) {
+        int wrongBefore = wrong;
+        int doneBefore = done;
+        test.run();
+        isTrue("some answer is looked at", done > doneBefore);
+        if (wrong > wrongBefore) {
+            System.out.println("  so this does not hold (" + part + "): " + words);
+        }
+    }
 
     void due(String what, long got, long want) {
         done++;
@@ -40,6 +57,14 @@ final class Checks {
         return desk;
     }
 
+    /** As desk, but other bytes stood in all the places before. */
+    static PacketDesk usedDesk(int before, int... bytes) {
+        PacketDesk desk = desk(same(before, 120));
+        desk.clear();
+        fill(desk, bytes);
+        return desk;
+    }
+
     static void fill(PacketDesk desk, int... bytes) {
         for (int b : bytes) {
             desk.add(b);
@@ -49,8 +74,8 @@ final class Checks {
     static int[] bytesOf(PacketDesk desk) {
         int[] bytes = new int[121];
         int length = 0;
-        for (int k = 0; k < bytes.length && desk.at(k) >= 0; k++) {
-            bytes[k] = desk.at(k);
+        for (int b = desk.at(0); b >= 0 && length < bytes.length; b = desk.at(length)) {
+            bytes[length] = b;
             length++;
         }
         return Arrays.copyOf(bytes, length);
@@ -79,6 +104,10 @@ final class Checks {
             all = longer;
         }
         return all;
+    }
+
+    static int[] first(int count, int[] bytes) {
+        return Arrays.copyOf(bytes, count);
     }
 
     static int[] row(int... bytes) {
