@@ -1,5 +1,3 @@
-import java.nio.file.Files;
-import java.nio.file.Path;
 import java.util.ArrayList;
 import java.util.Arrays;
 import java.util.LinkedHashMap;
@@ -9,7 +7,6 @@ import java.util.Map;
 /** Every word of the document's terms and promises is told by some test, and no test tells others. */
 public final class DocumentTest {
     private static final Checks CHECKS = new Checks();
-    private static final Path DOCUMENT = Path.of("../shared/DOC.md");
 
     public static void main(String[] args) throws Exception {
         Map<String, String> parts = parts();
@@ -32,14 +29,10 @@ public final class DocumentTest {
     }
 
     private static Map<String, String> parts() throws Exception {
-        Map<String, String> parts = new LinkedHashMap<>();
-        for (String part : Files.readString(DOCUMENT).split("(?m)^## ")) {
-            int end = part.indexOf('\n');
-            String words = part.substring(end + 1)
-                .replaceAll("(?m)^```.*$", " ")
-                .replaceAll("(?m)^`[^`]*`: ", " ");
-            parts.put(part.substring(0, end).strip(), folded(words));
-        }
+        Map<String, String> parts = Readings.parts(Readings.DOCUMENT);
+        parts.replaceAll((heading, text) -> folded(text
+            .replaceAll("(?m)^```.*$", " ")
+            .replaceAll("(?m)^`[^`]*`: ", " ")));
         return parts;
     }
 

@@ -22,11 +22,14 @@ import javax.tools.ToolProvider;
 /** The public face of the document, and those rules of LANGUAGE.md that the source can show. */
 public final class FaceTest {
     private static final Checks CHECKS = new Checks();
+    private static final Set<String> NUMBERS = Set.of("int", "long", "short", "byte", "char", "boolean");
     private static final Path SOURCE = Path.of("src/main/java/PacketDesk.java");
 
     public static void main(String[] args) throws Exception {
-        constants();
-        face();
+        List<String> face = Readings.face();
+        constants(face);
+        methods(face);
+        constructor(face);
         fields();
         ClassTree tree = parse();
         rules(tree);
@@ -35,19 +38,20 @@ public final class FaceTest {
         CHECKS.finish();
     }
 
-    private static void constants() {
-        CHECKS.due("BAD", PacketDesk.BAD, -1);
-        CHECKS.due("FULL", PacketDesk.FULL, -2);
-        CHECKS.due("SHORT", PacketDesk.SHORT, -3);
-        CHECKS.due("WRONG", PacketDesk.WRONG, -4);
+    private static void constants(List<String> face) throws Exception {
+        Map<String, Integer> due = Readings.constants(face);
+        CHECKS.isTrue("the document's constants " + due,
+            due.equals(Map.of("BAD", -1, "FULL", -2, "SHORT", -3, "WRONG", -4)));
+        for (Map.Entry<String, Integer> constant : due.entrySet()) {
+            Field field = PacketDesk.class.getDeclaredField(constant.getKey());
+            CHECKS.due(constant.getKey(), field.getInt(null), constant.getValue());
+            CHECKS.isTrue(constant.getKey() + " is a public constant",
+                field.getModifiers() == (Modifier.PUBLIC | Modifier.STATIC | Modifier.FINAL));
+        }
     }
 
-    private static void face() {
-        Set<String> due = new TreeSet<>(List.of("int add(int)", "int at(int)", "int set(int, int)", "int clear()",
-            "int wrap(int, int)", "int unwrap()", "int pack()", "int unpack()", "int hash()",
-            "int stretch(int, int)", "int encipher(int, int)", "int decipher(int)",
-            "int key(int, int, int, int)", "int sign(int)", "int verify(int)", "long raise(int, long, boolean)",
-            "int letters()", "int plain()"));
+    private static void methods(List<String> face) {
+        Set<String> due = new TreeSet<>(Readings.methods(face));
         Set<String> shown = new TreeSet<>();
         Set<String> hidden = new HashSet<>();
         for (Method method : PacketDesk.class.getDeclaredMethods()) {
@@ -61,11 +65,16 @@ public final class FaceTest {
                     method.getModifiers() == Modifier.PUBLIC);
             }
         }
-        CHECKS.isTrue("the methods " + shown, shown.equals(due));
+        CHECKS.isTrue("the methods " + shown + ", due are " + due, shown.equals(due));
         for (String one : due) {
             String name = one.substring(one.indexOf(' ') + 1, one.indexOf('('));
             CHECKS.isTrue("no private method is named " + name, !hidden.contains(name));
         }
+    }
+
+    private static void constructor(List<String> face) {
+        CHECKS.isTrue("the document has the class", face.contains("public final class PacketDesk {"));
+        CHECKS.isTrue("the document has the constructor", face.contains("public PacketDesk();"));
         Constructor<?>[] constructors = PacketDesk.class.getDeclaredConstructors();
         CHECKS.due("constructors", constructors.length, 1);
         CHECKS.due("parameters of it", constructors[0].getParameterCount(), 0);
@@ -109,8 +118,13 @@ public final class FaceTest {
             if (member instanceof MethodTree method) {
                 CHECKS.isTrue(method.getName() + " has at most seven parameters",
                     method.getParameters().size() <= 7);
+                String answer = String.valueOf(method.getReturnType());
+                CHECKS.isTrue(method.getName() + " answers a number or nothing: " + answer,
+                    NUMBERS.contains(answer) || answer.equals("void") || answer.equals("null"));
             }
             boolean inMethod = member instanceof MethodTree;
+            CHECKS.isTrue("a field or a method: " + member.getKind(),
+                inMethod || member instanceof VariableTree);
             new Rules(inMethod).scan(member, null);
         }
     }
@@ -138,6 +152,20 @@ public final class FaceTest {
         }
 
         @Override
+        public Void visitVariable(VariableTree tree, Void unused) {
+            String type = tree.getType().toString();
+            String ofOne = type.endsWith("[]") ? type.substring(0, type.length() - 2) : type;
+            CHECKS.isTrue("a number or a row of numbers: " + tree, NUMBERS.contains(ofOne));
+            return super.visitVariable(tree, unused);
+        }
+
+        @Override
+        public Void visitTypeCast(TypeCastTree tree, Void unused) {
+            CHECKS.isTrue("a cast to a number: " + tree, NUMBERS.contains(tree.getType().toString()));
+            return super.visitTypeCast(tree, unused);
+        }
+
+        @Override
         public Void visitNewArray(NewArrayTree tree, Void unused) {
             CHECKS.isTrue("an array is made in a field's initialiser: " + tree, !inMethod);
             CHECKS.due("its dimensions", tree.getDimensions().size(), 1);
@@ -147,6 +175,7 @@ public final class FaceTest {
         @Override
         public Void visitMethodInvocation(MethodInvocationTree tree, Void unused) {
             CHECKS.isTrue("no call inside the arguments of another: " + tree, inArguments == 0);
+            CHECKS.isTrue("no call in a field's initialiser: " + tree, inMethod);
             inArguments++;
             scan(tree.getArguments(), unused);
             inArguments--;
